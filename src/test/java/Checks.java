@@ -1,0 +1,116 @@
+import java.nio.charset.StandardCharsets;
+import java.util.function.IntSupplier;
+
+/** What the tests share: they say what is not as due, and end with exit code 1 then. */
+final class Checks {
+    private static final int PRINTED_AT_MOST = 50;
+    private static int done = 0;
+    private static int wrong = 0;
+
+    private Checks() {
+    }
+
+    static void due(String what, Object got, Object want) {
+        done++;
+        if (!want.equals(got)) {
+            wrong++;
+            if (wrong <= PRINTED_AT_MOST) {
+                System.out.println(what + " answered " + got + ", due is " + want);
+            }
+        }
+    }
+
+    /** What a call answers, or the plain name of what it throws. */
+    static String answer(IntSupplier call) {
+        try {
+            return Integer.toString(call.getAsInt());
+        } catch (RuntimeException thrown) {
+            return thrown.getClass().getSimpleName();
+        }
+    }
+
+    static void answers(String what, IntSupplier call, int want) {
+        due(what, answer(call), Integer.toString(want));
+    }
+
+    static void throwsA(String what, IntSupplier call, Class<? extends RuntimeException> want) {
+        due(what, answer(call), want.getSimpleName());
+    }
+
+    /** Up to eight characters as text() takes them. */
+    static long packed(String characters) {
+        byte[] bytes = characters.getBytes(StandardCharsets.ISO_8859_1);
+        long all = 0;
+        for (int i = bytes.length - 1; i >= 0; i--) {
+            all = all << 8 | bytes[i] & 255;
+        }
+        return all;
+    }
+
+    static void feed(PathTexts paths, String text) {
+        for (int i = 0; i < text.length(); i += 8) {
+            paths.text(packed(text.substring(i, Math.min(text.length(), i + 8))));
+        }
+    }
+
+    static int readText(PathTexts paths, String text) {
+        feed(paths, text);
+        return paths.read();
+    }
+
+    static PathTexts drawn(String text) {
+        PathTexts paths = new PathTexts();
+        int commands = readText(paths, text);
+        if (commands < 0) {
+            due("reading " + text, commands, "no less than 0");
+        }
+        return paths;
+    }
+
+    /** All commands that are drawn, as the face tells them. */
+    static String commands(PathTexts paths) {
+        StringBuilder all = new StringBuilder();
+        for (int k = 0; k < paths.told(0); k++) {
+            int kind = paths.command(k);
+            all.append(all.length() == 0 ? "" : " ").append("MLCZ".charAt(kind));
+            int numbers = kind == 2 ? 6 : kind == 3 ? 0 : 2;
+            for (int i = 0; i < numbers; i++) {
+                all.append(i == 0 ? "" : ",").append(paths.number(k, i));
+            }
+        }
+        return all.toString();
+    }
+
+    static String written(PathTexts paths) {
+        StringBuilder all = new StringBuilder();
+        for (int i = 0; i < paths.told(2); i++) {
+            all.append((char) paths.charAt(i));
+        }
+        return all.toString();
+    }
+
+    /** Everything that the face tells of an object's state. */
+    static String state(PathTexts paths) {
+        StringBuilder all = new StringBuilder();
+        all.append(commands(paths)).append('|').append(written(paths));
+        for (int what = 0; what < 4; what++) {
+            all.append('|').append(paths.told(what)).append('|').append(paths.bound(what));
+        }
+        for (int y = 0; y < 8; y++) {
+            for (int x = 0; x < 8; x++) {
+                int column = x;
+                int row = y;
+                String covered = answer(() -> paths.covered(column, row));
+                all.append(covered.startsWith("IndexOut") ? "" : "|" + x + "," + y + ":" + covered);
+            }
+        }
+        return all.toString();
+    }
+
+    static void end() {
+        System.out.println(done + " answers looked at, " + wrong + " not as due");
+        if (wrong != 0 || done == 0) {
+            System.exit(1);
+        }
+    }
+}

@@ -1,0 +1,99 @@
+import java.lang.management.ManagementFactory;
+
+/** The most of everything that may be, and that calls make no rows anew. */
+public final class LimitTest {
+    private LimitTest() {
+    }
+
+    public static void main(String[] args) {
+        longestWriting();
+        longestTexts();
+        mostEdges();
+        callsMakeNothing();
+        Checks.end();
+    }
+
+    private static void longestWriting() {
+        PathTexts paths = new PathTexts();
+        int far = -1048575;
+        paths.move(far, far);
+        for (int i = 1; i < 150; i++) {
+            paths.cubic(far, far, far, far, far, far);
+        }
+        String pair = "-4095.996-4095.996";
+        String want = "M" + pair + ("C" + pair.repeat(3)).repeat(149);
+        Checks.answers("the longest writing", paths::write, want.length());
+        Checks.due("is whole", Checks.written(paths), want);
+    }
+
+    private static void longestTexts() {
+        String[] starts = {"M", "M1", "M1 1L", "(", "M.", "M-", "(1 0 0 1 0 0", "M1 1z", ""};
+        for (String start : starts) {
+            for (String filling : new String[] {" ", ",", "1", "1 ", ".", "-", "+1", "(", ")", "z", "m", "9.", ".9"}) {
+                String text = start + filling.repeat(1200);
+                String cut = text.substring(0, 1200);
+                int want;
+                try {
+                    want = Model.read(cut).size();
+                } catch (Model.Wrong wrong) {
+                    want = -1 - wrong.place;
+                }
+                Checks.due("1200 of " + start + filling, Checks.readText(new PathTexts(), cut), want);
+            }
+        }
+    }
+
+    private static void mostEdges() {
+        PathTexts paths = new PathTexts();
+        paths.move(0, 0);
+        for (int i = 1; i < 150; i++) {
+            paths.cubic(1048576, -1048576, -1048576, 1048576, i, i % 2 == 0 ? 2048 : 0);
+        }
+        Checks.due("edges", paths.told(3), 149 * 16 + 1);
+        int all = paths.render(8, 8, 1);
+        int sum = 0;
+        for (int i = 0; i < 64; i++) {
+            sum += paths.covered(i % 8, i / 8);
+        }
+        Checks.due("all points are the squares' points", sum, all);
+    }
+
+    /** One room holds all that a run makes: only exceptions may be made by calls. */
+    private static void callsMakeNothing() {
+        com.sun.management.ThreadMXBean threads =
+            (com.sun.management.ThreadMXBean) ManagementFactory.getThreadMXBean();
+        long thread = Thread.currentThread().getId();
+        PathTexts paths = new PathTexts();
+        long made = 0;
+        for (int round = 0; round < 3; round++) {
+            long before = threads.getThreadAllocatedBytes(thread);
+            for (int i = 0; i < 2000; i++) {
+                manyCalls(paths);
+            }
+            made = threads.getThreadAllocatedBytes(thread) - before;
+        }
+        Checks.due("2000 times all calls make less than one object each: " + made, made < 2000 * 16, true);
+    }
+
+    private static void manyCalls(PathTexts paths) {
+        paths.text(3539889918515884365L);
+        paths.text(3975606774473439008L);
+        paths.text('z');
+        paths.read();
+        paths.text('(');
+        paths.read();
+        paths.line(300, -77);
+        paths.cubic(1, 2, 3, 4, 5, 6);
+        paths.close();
+        paths.move(7, 7);
+        paths.write();
+        paths.charAt(0);
+        paths.render(2, 2, 0);
+        paths.covered(0, 0);
+        paths.command(1);
+        paths.number(1, 1);
+        paths.bound(0);
+        paths.told(3);
+        paths.clear();
+    }
+}
