@@ -488,7 +488,6 @@ public final class PathTexts {
             pen.matrices.startOver();
             pen.standAtZero();
             at = 0;
-            wrong = NONE;
             moveIsDue = true;
             // Each step takes one character at least, so these steps are enough for all.
             for (int step = 0; step <= MOST_CHARACTERS; step++) {
@@ -496,25 +495,17 @@ public final class PathTexts {
                 if (at >= text.length) {
                     return pen.matrices.depth == 0 ? NONE : text.length;
                 }
-                if (!takeCommand(target)) {
+                int place = at;
+                char letter = text.at(place);
+                at++;
+                boolean right = letter == '(' ? takeOpening(place)
+                        : letter == ')' ? takeClosing(place)
+                        : takeLetter(letter, place, target);
+                if (!right) {
                     return wrong;
                 }
             }
             return at;
-        }
-
-        boolean takeCommand(Drawing target) {
-            int place = at;
-            char letter = text.at(place);
-            at++;
-            switch (letter) {
-                case '(':
-                    return takeOpening(place);
-                case ')':
-                    return takeClosing(place);
-                default:
-                    return takeLetter(letter, place, target);
-            }
         }
 
         boolean takeOpening(int place) {
@@ -751,7 +742,6 @@ public final class PathTexts {
         long y;
         long startX;
         long startY;
-        boolean open;
 
         int coverSquares(Drawing drawing, int newWidth, int newHeight, int rule) {
             width = newWidth;
@@ -768,12 +758,12 @@ public final class PathTexts {
         }
 
         void addDrawing(Drawing drawing) {
-            open = false;
             for (int k = 0; k < MOST_COMMANDS && k < drawing.count; k++) {
                 int first = k * MOST_NUMBERS;
                 switch (drawing.kinds[k]) {
                     case MOVE:
-                        addEdgeBack();
+                        // Where nothing came since the start, this edge is a point, and adds nothing.
+                        addEdge(startX, startY);
                         startX = drawing.numbers[first];
                         startY = drawing.numbers[first + 1];
                         x = startX;
@@ -781,25 +771,16 @@ public final class PathTexts {
                         break;
                     case LINE:
                         addEdge(drawing.numbers[first], drawing.numbers[first + 1]);
-                        open = true;
                         break;
                     case CUBIC:
                         addCubic(drawing.numbers, first);
-                        open = true;
                         break;
                     default:
-                        addEdgeBack();
+                        addEdge(startX, startY);
                         break;
                 }
             }
-            addEdgeBack();
-        }
-
-        void addEdgeBack() {
-            if (open) {
-                addEdge(startX, startY);
-            }
-            open = false;
+            addEdge(startX, startY);
         }
 
         void addCubic(int[] numbers, int first) {
@@ -854,7 +835,7 @@ public final class PathTexts {
 
         /** The first of points 8, 24, 40 .. that is not below a number; end, if none before it is. */
         static int firstPointFrom(long number, int end) {
-            long first = Math.floorDiv(number + 7, 16L);
+            long first = (number + 7) >> 4;
             return first < 0 ? 0 : first > end ? end : (int) first;
         }
 

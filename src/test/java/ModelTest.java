@@ -121,10 +121,21 @@ public final class ModelTest {
             case 1:
                 return Model.numeral(random.nextInt(4096) - 1024);
             case 2:
-                return (random.nextInt(9) - 1) + "." + random.nextInt(100000);
+                return random.nextInt(4) == 0 ? longNumeral() : (random.nextInt(9) - 1) + "." + random.nextInt(100000);
             default:
                 return Model.numeral(random.nextInt(600000) - 300000);
         }
+    }
+
+    /** Nine digits at most, near to a half of 1/256. */
+    private String longNumeral() {
+        String half = new java.math.BigDecimal(2 * random.nextInt(2000) + 1).divide(new java.math.BigDecimal(512)).toPlainString();
+        int length = Math.min(half.length(), 3 + random.nextInt(8));
+        char[] cut = half.substring(0, length).toCharArray();
+        if (random.nextBoolean() && cut[length - 1] >= '0' && cut[length - 1] < '9') {
+            cut[length - 1]++;
+        }
+        return (random.nextBoolean() ? "-" : "") + new String(cut);
     }
 
     private String gap() {

@@ -15,6 +15,7 @@ public final class PromiseTest {
         promise3ReadLines();
         promise3ReadCurves();
         promise3ReadNumerals();
+        promise3ReadFractions();
         promise3ReadGroups();
         promise3ReadWrong();
         promise3ReadTooGreat();
@@ -150,6 +151,26 @@ public final class PromiseTest {
         wrong("M99999999999999999999999999 1", 1);
     }
 
+    private static void promise3ReadFractions() {
+        // (2 n + 1) / 512, cut behind a digit and one more there: just below, and not below, a half.
+        String[][] below = {
+            {".001", "0"}, {".0019", "0"}, {".00195", "0"}, {".001953", "0"}, {".0019531", "0"}, {".00195312", "0"},
+            {"9.998", "2559"}, {"9.9980", "2559"}, {"9.99804", "2559"}, {"9.998046", "2559"}, {"9.9980468", "2559"},
+            {"9.99804687", "2559"}, {"99.998046", "25599"}, {"99.9980468", "25599"}, {"999.99804", "255999"},
+            {"999.998046", "255999"}};
+        String[][] beyond = {
+            {".002", "1"}, {".0020", "1"}, {".00196", "1"}, {".001954", "1"}, {".0019532", "1"}, {".00195313", "1"},
+            {"9.999", "2560"}, {"9.9981", "2560"}, {"9.99805", "2560"}, {"9.998047", "2560"}, {"9.9980469", "2560"},
+            {"9.99804688", "2560"}, {"99.998047", "25600"}, {"99.9980469", "25600"}, {"999.99805", "256000"},
+            {"999.998047", "256000"}};
+        for (String[][] table : new String[][][] {below, beyond}) {
+            for (String[] row : table) {
+                draws("3: ", "M0+" + row[0], "M0," + row[1]);
+                draws("3: ", "M0-" + row[0], "M0," + (row[1].equals("0") ? "0" : "-" + row[1]));
+            }
+        }
+    }
+
     private static void promise3ReadGroups() {
         draws("3: ", "(1 0 0 1 0 0)", "");
         draws("3: ", "(1 0 0 1 2 3M1 1)", "M768,1024");
@@ -234,6 +255,11 @@ public final class PromiseTest {
         wrong("(1 0 0 1 .004 0M4096 0)", 15);
         wrong(" (2 0 0 2 0 0(2049 0 0 1 0 0M0 0))", 13);
         wrong("(1 0 0 1 4096 0(1 0 0 1 1 0)", 15);
+        for (int i = 0; i < 6; i++) {
+            String inner = "0 ".repeat(i) + "2049 " + "0 ".repeat(5 - i);
+            wrong("(2 0 0 2 0 0(" + inner + "M0 0))", 12);
+            wrong("(-2 0 0-2 0 0(" + inner + "M0 0))", 13);
+        }
         wrong("(2 0 0 2 0 0M4096 0x", 12);
         wrong("(2 0 0 2 0 0M4096 x", 18);
         draws("3: too great before the matrix alone: ", "(.5 0 0 .5 0 0M4096 0h4096)", "M524288,0 L1048576,0");
@@ -481,6 +507,11 @@ public final class PromiseTest {
         Checks.due("12: one line alone", covers(0, 0, 0, 256, 256), 0);
         Checks.due("12: far outside", covers(0, -1048576, -1048576, 1048576, -1048576, 1048576, 1048576, -1048576, 1048576), 256);
         Checks.due("12: far slopes", covers(0, -1048576, -1048576, 1048576, 1048576, -1048576, 1048576), 120);
+        PathTexts cleared = Checks.drawn("M0 0H1V1");
+        cleared.render(1, 1, 0);
+        cleared.clear();
+        Checks.readText(cleared, "M0 0H1V1H0");
+        Checks.answers("12: nothing is left of earlier ones", () -> cleared.render(1, 1, 0), 256);
         PathTexts closed = Checks.drawn("M0 0H1V1ZL0 1H1M5 5");
         Checks.answers("12: behind CLOSE from the start on", () -> closed.render(1, 1, 0), 256);
     }
