@@ -6,8 +6,18 @@ final class Checks {
     private static final int PRINTED_AT_MOST = 50;
     private static int done = 0;
     private static int wrong = 0;
+    private static String about = "";
 
     private Checks() {
+    }
+
+    /** What the answers that follow are about. */
+    static void about(String name) {
+        about = name;
+    }
+
+    static int done() {
+        return done;
     }
 
     static void due(String what, Object got, Object want) {
@@ -15,7 +25,7 @@ final class Checks {
         if (!want.equals(got)) {
             wrong++;
             if (wrong <= PRINTED_AT_MOST) {
-                System.out.println(what + " answered " + got + ", due is " + want);
+                System.out.println(about + what + " answered " + got + ", due is " + want);
             }
         }
     }
@@ -47,19 +57,19 @@ final class Checks {
         return all;
     }
 
-    static void feed(PathTexts paths, String text) {
+    static void feed(Paths paths, String text) {
         for (int i = 0; i < text.length(); i += 8) {
             paths.text(packed(text.substring(i, Math.min(text.length(), i + 8))));
         }
     }
 
-    static int readText(PathTexts paths, String text) {
+    static int readText(Paths paths, String text) {
         feed(paths, text);
         return paths.read();
     }
 
-    static PathTexts drawn(String text) {
-        PathTexts paths = new PathTexts();
+    static Paths drawn(String text) {
+        Paths paths = new Paths();
         int commands = readText(paths, text);
         if (commands < 0) {
             due("reading " + text, commands, "no less than 0");
@@ -68,9 +78,10 @@ final class Checks {
     }
 
     /** All commands that are drawn, as the face tells them. */
-    static String commands(PathTexts paths) {
+    static String commands(Paths paths) {
         StringBuilder all = new StringBuilder();
-        for (int k = 0; k < paths.told(0); k++) {
+        int count = paths.told(0);
+        for (int k = 0; k < count; k++) {
             int kind = paths.command(k);
             all.append(all.length() == 0 ? "" : " ").append("MLCZ".charAt(kind));
             int numbers = kind == 2 ? 6 : kind == 3 ? 0 : 2;
@@ -81,16 +92,32 @@ final class Checks {
         return all.toString();
     }
 
-    static String written(PathTexts paths) {
+    /** A text is read into commands. */
+    static void draws(String text, String want) {
+        Paths paths = new Paths();
+        int answer = readText(paths, text);
+        due(text, commands(paths), want);
+        due("how many of " + text, answer, want.isEmpty() ? 0 : want.split(" ").length);
+    }
+
+    /** A text is seen to be wrong at a place. */
+    static void wrong(String text, int place) {
+        Paths paths = drawn("M7 7");
+        due(text, readText(paths, text), PathTexts.NONE - place);
+        due("the drawing behind " + text, commands(paths), "M1792,1792");
+    }
+
+    static String written(Paths paths) {
         StringBuilder all = new StringBuilder();
-        for (int i = 0; i < paths.told(2); i++) {
+        int length = paths.told(2);
+        for (int i = 0; i < length; i++) {
             all.append((char) paths.charAt(i));
         }
         return all.toString();
     }
 
     /** Everything that the face tells of an object's state. */
-    static String state(PathTexts paths) {
+    static String state(Paths paths) {
         StringBuilder all = new StringBuilder();
         all.append(commands(paths)).append('|').append(written(paths));
         for (int what = 0; what < 4; what++) {

@@ -1,7 +1,9 @@
 import java.lang.management.ManagementFactory;
 
-/** The most of everything that may be, and that calls make no rows anew. */
+/** The most of everything that may be, and that calls make little anew. */
 public final class LimitTest {
+    private static final int CALLS_OF_ONE_TURN = 19;
+
     private LimitTest() {
     }
 
@@ -9,12 +11,12 @@ public final class LimitTest {
         longestWriting();
         longestTexts();
         mostEdges();
-        callsMakeNothing();
+        callsMakeLittle();
         Checks.end();
     }
 
     private static void longestWriting() {
-        PathTexts paths = new PathTexts();
+        Paths paths = new Paths();
         int far = -1048575;
         paths.move(far, far);
         for (int i = 1; i < 150; i++) {
@@ -38,13 +40,13 @@ public final class LimitTest {
                 } catch (Model.Wrong wrong) {
                     want = -1 - wrong.place;
                 }
-                Checks.due("1200 of " + start + filling, Checks.readText(new PathTexts(), cut), want);
+                Checks.due("1200 of " + start + filling, Checks.readText(new Paths(), cut), want);
             }
         }
     }
 
     private static void mostEdges() {
-        PathTexts paths = new PathTexts();
+        Paths paths = new Paths();
         paths.move(0, 0);
         for (int i = 1; i < 150; i++) {
             paths.cubic(1048576, -1048576, -1048576, 1048576, i, i % 2 == 0 ? 2048 : 0);
@@ -58,24 +60,24 @@ public final class LimitTest {
         Checks.due("all points are the squares' points", sum, all);
     }
 
-    /** One room holds all that a run makes: only exceptions may be made by calls. */
-    private static void callsMakeNothing() {
+    /** One room holds all that a run makes: an object and its 512 calls take a small part of it. */
+    private static void callsMakeLittle() {
         com.sun.management.ThreadMXBean threads =
             (com.sun.management.ThreadMXBean) ManagementFactory.getThreadMXBean();
         long thread = Thread.currentThread().getId();
-        PathTexts paths = new PathTexts();
         long made = 0;
         for (int round = 0; round < 3; round++) {
             long before = threads.getThreadAllocatedBytes(thread);
-            for (int i = 0; i < 2000; i++) {
-                manyCalls(paths);
+            PathTexts paths = new PathTexts();
+            for (int i = 0; i < Paths.MOST_CALLS / CALLS_OF_ONE_TURN; i++) {
+                oneTurn(paths);
             }
             made = threads.getThreadAllocatedBytes(thread) - before;
         }
-        Checks.due("2000 times all calls make less than one object each: " + made, made < 2000 * 16, true);
+        Checks.due("the bytes of one object's calls are few: " + made, made < 1 << 20, true);
     }
 
-    private static void manyCalls(PathTexts paths) {
+    private static void oneTurn(PathTexts paths) {
         paths.text(3539889918515884365L);
         paths.text(3975606774473439008L);
         paths.text('z');
@@ -88,7 +90,7 @@ public final class LimitTest {
         paths.move(7, 7);
         paths.write();
         paths.charAt(0);
-        paths.render(2, 2, 0);
+        paths.render(8, 8, 0);
         paths.covered(0, 0);
         paths.command(1);
         paths.number(1, 1);

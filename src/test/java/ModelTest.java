@@ -9,7 +9,7 @@ public final class ModelTest {
     private static final int[] NEEDS = {2, 2, 2, 2, 1, 1, 1, 1, 6, 6, 4, 4, 4, 4, 2, 2, 0, 0};
 
     private final Random random;
-    private final PathTexts paths = new PathTexts();
+    private final Paths paths = new Paths();
     private List<Model.Command> drawing = new ArrayList<>();
     private String written = "";
     private int width = 0;
@@ -35,7 +35,7 @@ public final class ModelTest {
         Checks.end();
     }
 
-    private static final PathTexts ONE = new PathTexts();
+    private static final Paths ONE = new Paths();
 
     private static void lookAtNumeral(int number) {
         ONE.clear();
@@ -49,7 +49,8 @@ public final class ModelTest {
 
     private void run() {
         int style = random.nextInt(4);
-        for (int step = 0; step < 8; step++) {
+        // A step changes the object 160 times at most: 150 times by a text, and by what follows it.
+        for (int step = 0; step < 8 && paths.changes() < Paths.MOST_CALLS - 200; step++) {
             switch (random.nextInt(4)) {
                 case 0, 1 -> readOne(style);
                 case 2 -> addSome();

@@ -41,7 +41,7 @@ public final class PromiseTest {
     }
 
     private static void promise1NewObject() {
-        PathTexts paths = new PathTexts();
+        Paths paths = new Paths();
         for (int what = 0; what < 4; what++) {
             Checks.due("1: told " + what, paths.told(what), 0);
             Checks.due("1: bound " + what, paths.bound(what), 0);
@@ -52,12 +52,12 @@ public final class PromiseTest {
         Checks.throwsA("1: covered", () -> paths.covered(0, 0), INDEX);
         Checks.answers("1: write", paths::write, 0);
         Checks.answers("1: read", paths::read, 0);
-        PathTexts other = Checks.drawn("M1 1");
+        Paths other = Checks.drawn("M1 1");
         Checks.due("1: objects are apart", paths.told(0) + other.told(0), 1);
     }
 
     private static void promise2Text() {
-        PathTexts paths = new PathTexts();
+        Paths paths = new Paths();
         Checks.answers("2: nothing", () -> paths.text(0), 0);
         Checks.answers("2: one", () -> paths.text('M'), 1);
         Checks.answers("2: zeros between", () -> paths.text(0x3100200000003200L), 4);
@@ -78,7 +78,7 @@ public final class PromiseTest {
     }
 
     private static void draws(String promise, String text, String want) {
-        PathTexts paths = new PathTexts();
+        Paths paths = new Paths();
         int answer = Checks.readText(paths, text);
         Checks.due(promise + text, Checks.commands(paths), want);
         Checks.due(promise + "how many of " + text, answer, want.isEmpty() ? 0 : want.split(" ").length);
@@ -190,7 +190,7 @@ public final class PromiseTest {
     }
 
     private static void wrong(String text, int place) {
-        PathTexts paths = Checks.drawn("M7 7");
+        Paths paths = Checks.drawn("M7 7");
         String before = Checks.state(paths);
         Checks.due("3: " + text, Checks.readText(paths, text), -1 - place);
         Checks.due("3: the drawing stays, the text goes: " + text, Checks.state(paths), before);
@@ -272,7 +272,7 @@ public final class PromiseTest {
     }
 
     private static void promise3ReadKeepsOrReplaces() {
-        PathTexts paths = Checks.drawn("M1 1L2 2");
+        Paths paths = Checks.drawn("M1 1L2 2");
         paths.write();
         paths.render(1, 1, 0);
         Checks.answers("3: a new drawing", () -> Checks.readText(paths, "M3 3"), 1);
@@ -289,7 +289,7 @@ public final class PromiseTest {
     }
 
     private static void promise4Move() {
-        PathTexts paths = new PathTexts();
+        Paths paths = new Paths();
         Checks.answers("4: move", () -> paths.move(1048576, -1048576), 1);
         Checks.answers("4: move", () -> paths.move(-1048576, 1048576), 2);
         Checks.due("4: both", Checks.commands(paths), "M1048576,-1048576 M-1048576,1048576");
@@ -308,7 +308,7 @@ public final class PromiseTest {
     }
 
     private static void promise5Line() {
-        PathTexts paths = new PathTexts();
+        Paths paths = new Paths();
         Checks.throwsA("5: no MOVE", () -> paths.line(1, 1), STATE);
         Checks.throwsA("5: the number goes before the state", () -> paths.line(1, 1048577), ARGUMENT);
         Checks.throwsA("5: the number goes before the state", () -> paths.line(-1048577, 1), ARGUMENT);
@@ -326,7 +326,7 @@ public final class PromiseTest {
     }
 
     private static void promise6Cubic() {
-        PathTexts paths = new PathTexts();
+        Paths paths = new Paths();
         Checks.throwsA("6: no MOVE", () -> paths.cubic(1, 2, 3, 4, 5, 6), STATE);
         for (int i = 0; i < 6; i++) {
             int[] n = new int[6];
@@ -343,7 +343,7 @@ public final class PromiseTest {
     }
 
     private static void promise7Close() {
-        PathTexts paths = new PathTexts();
+        Paths paths = new Paths();
         Checks.throwsA("7: no MOVE", paths::close, STATE);
         paths.move(0, 0);
         Checks.answers("7: close", paths::close, 2);
@@ -357,7 +357,7 @@ public final class PromiseTest {
     }
 
     private static void promise8Command() {
-        PathTexts paths = Checks.drawn("M1 1L2 2C1 1 2 2 3 3Z");
+        Paths paths = Checks.drawn("M1 1L2 2C1 1 2 2 3 3Z");
         for (int k = 0; k < 4; k++) {
             int index = k;
             Checks.answers("8: " + k, () -> paths.command(index), k);
@@ -368,7 +368,7 @@ public final class PromiseTest {
     }
 
     private static void promise9Number() {
-        PathTexts paths = Checks.drawn("M1 2L3 4C5 6 7 8 9 10Z");
+        Paths paths = Checks.drawn("M1 2L3 4C5 6 7 8 9 10Z");
         int[] numbers = {2, 2, 6, 0};
         int next = 256;
         for (int k = 0; k < 4; k++) {
@@ -389,7 +389,7 @@ public final class PromiseTest {
     }
 
     private static void writes(String want, int... numbers) {
-        PathTexts paths = new PathTexts();
+        Paths paths = new Paths();
         paths.move(numbers[0], numbers[1]);
         for (int i = 2; i + 5 < numbers.length; i += 6) {
             paths.cubic(numbers[i], numbers[i + 1], numbers[i + 2], numbers[i + 3], numbers[i + 4], numbers[i + 5]);
@@ -426,13 +426,13 @@ public final class PromiseTest {
         writes("M-1-1", -256, -256);
         writes("M0 0C.5.5 1 .5-.5.5", 0, 0, 128, 128, 256, 128, -128, 128);
         writes("M.5.5C.5 0 .5-1 0 .5", 128, 128, 128, 0, 128, -256, 0, 128);
-        PathTexts paths = Checks.drawn("m.5.5l1 1q0 0 3 0zl.5.5zz");
+        Paths paths = Checks.drawn("m.5.5l1 1q0 0 3 0zl.5.5zz");
         paths.write();
         Checks.due("10: all letters", Checks.written(paths), "M.5.5L1.5 1.5C1.5 1.5 2.5 1.5 4.5 1.5ZL1 1ZZ");
     }
 
     private static void promise11CharAt() {
-        PathTexts paths = Checks.drawn("M1-2");
+        Paths paths = Checks.drawn("M1-2");
         Checks.throwsA("11: before the writing", () -> paths.charAt(0), INDEX);
         paths.write();
         for (int i = 0; i < 4; i++) {
@@ -454,7 +454,7 @@ public final class PromiseTest {
     }
 
     private static void renders(String text, int rule, int want) {
-        PathTexts paths = Checks.drawn(text);
+        Paths paths = Checks.drawn(text);
         Checks.answers("12: " + text + " by rule " + rule, () -> paths.render(2, 2, rule), want);
     }
 
@@ -471,7 +471,7 @@ public final class PromiseTest {
         renders("M0 0H1V1H0V0H1V1H0V0H1V1H0Z", 1, 256);
         renders("M0 0H1V1H0V0H1V1H0Z", 1, 0);
         renders("M0 0H1V1H0V0H1V1H0Z", 0, 256);
-        PathTexts paths = Checks.drawn("M-9-9H9V9H-9Z");
+        Paths paths = Checks.drawn("M-9-9H9V9H-9Z");
         Checks.answers("12: all", () -> paths.render(8, 8, 0), 16384);
         Checks.answers("12: 1 by 8", () -> paths.render(1, 8, 1), 2048);
         String before = Checks.state(paths);
@@ -486,7 +486,7 @@ public final class PromiseTest {
     }
 
     private static int covers(int rule, int... numbers) {
-        PathTexts paths = new PathTexts();
+        Paths paths = new Paths();
         paths.move(numbers[0], numbers[1]);
         for (int i = 2; i < numbers.length; i += 2) {
             paths.line(numbers[i], numbers[i + 1]);
@@ -507,19 +507,19 @@ public final class PromiseTest {
         Checks.due("12: one line alone", covers(0, 0, 0, 256, 256), 0);
         Checks.due("12: far outside", covers(0, -1048576, -1048576, 1048576, -1048576, 1048576, 1048576, -1048576, 1048576), 256);
         Checks.due("12: far slopes", covers(0, -1048576, -1048576, 1048576, 1048576, -1048576, 1048576), 120);
-        PathTexts cleared = Checks.drawn("M0 0H1V1");
+        Paths cleared = Checks.drawn("M0 0H1V1");
         cleared.render(1, 1, 0);
         cleared.clear();
         Checks.readText(cleared, "M0 0H1V1H0");
         Checks.answers("12: nothing is left of earlier ones", () -> cleared.render(1, 1, 0), 256);
-        PathTexts closed = Checks.drawn("M0 0H1V1ZL0 1H1M5 5");
+        Paths closed = Checks.drawn("M0 0H1V1ZL0 1H1M5 5");
         Checks.answers("12: behind CLOSE from the start on", () -> closed.render(1, 1, 0), 256);
     }
 
     private static void promise12RenderCurves() {
-        PathTexts flat = Checks.drawn("M0 0C0 0 1 0 1 0V1H0Z");
+        Paths flat = Checks.drawn("M0 0C0 0 1 0 1 0V1H0Z");
         Checks.answers("12: a flat curve", () -> flat.render(1, 1, 0), 256);
-        PathTexts bow = new PathTexts();
+        Paths bow = new Paths();
         bow.move(0, 0);
         bow.cubic(0, 256, 256, 256, 256, 0);
         int inside = 0;
@@ -553,7 +553,7 @@ public final class PromiseTest {
     }
 
     private static void promise13Covered() {
-        PathTexts paths = Checks.drawn("M1 0H3V.5H1ZM0 1H1V2H0Z");
+        Paths paths = Checks.drawn("M1 0H3V.5H1ZM0 1H1V2H0Z");
         Checks.throwsA("13: before render", () -> paths.covered(0, 0), INDEX);
         paths.render(3, 2, 0);
         int[] want = {0, 128, 128, 256, 0, 0};
@@ -582,7 +582,7 @@ public final class PromiseTest {
     }
 
     private static void bounds(String text, int... want) {
-        PathTexts paths = Checks.drawn(text);
+        Paths paths = Checks.drawn(text);
         for (int what = 0; what < 4; what++) {
             Checks.due("14: bound " + what + " of " + text, paths.bound(what), want[what]);
         }
@@ -601,7 +601,7 @@ public final class PromiseTest {
     }
 
     private static void promise15Told() {
-        PathTexts paths = Checks.drawn("M0 0L1 1");
+        Paths paths = Checks.drawn("M0 0L1 1");
         Checks.feed(paths, "M1 1L");
         Checks.due("15: commands", paths.told(0), 2);
         Checks.due("15: characters", paths.told(1), 5);
@@ -642,12 +642,12 @@ public final class PromiseTest {
     }
 
     private static void promise16Clear() {
-        PathTexts paths = Checks.drawn("M0 0H1V1H0Z");
+        Paths paths = Checks.drawn("M0 0H1V1H0Z");
         paths.write();
         paths.render(8, 8, 0);
         Checks.feed(paths, "M1 1");
         paths.clear();
-        Checks.due("16: as new", Checks.state(paths), Checks.state(new PathTexts()));
+        Checks.due("16: as new", Checks.state(paths), Checks.state(new Paths()));
         Checks.throwsA("16: no MOVE", paths::close, STATE);
         Checks.answers("16: no text", paths::read, 0);
         Checks.throwsA("16: no square", () -> paths.covered(0, 0), INDEX);
