@@ -3,9 +3,10 @@ import java.util.function.IntSupplier;
 
 /** What the tests share: they say what is not as due, and end with exit code 1 then. */
 final class Checks {
-    private static final int PRINTED_AT_MOST = 50;
+    private static final int PRINTED_AT_MOST = 20;
     private static int done = 0;
     private static int wrong = 0;
+    private static int printed = 0;
     private static String about = "";
 
     private Checks() {
@@ -14,6 +15,7 @@ final class Checks {
     /** What the answers that follow are about. */
     static void about(String name) {
         about = name;
+        printed = 0;
     }
 
     static int done() {
@@ -24,7 +26,8 @@ final class Checks {
         done++;
         if (!want.equals(got)) {
             wrong++;
-            if (wrong <= PRINTED_AT_MOST) {
+            printed++;
+            if (printed <= PRINTED_AT_MOST) {
                 System.out.println(about + what + " answered " + got + ", due is " + want);
             }
         }

@@ -1,4 +1,5 @@
 import java.lang.management.ManagementFactory;
+import java.util.List;
 
 /** The most of everything that may be, and that calls make little anew. */
 public final class LimitTest {
@@ -10,6 +11,7 @@ public final class LimitTest {
     public static void main(String[] args) {
         longestWriting();
         longestTexts();
+        farthestPoints();
         mostEdges();
         callsMakeLittle();
         Checks.end();
@@ -28,19 +30,43 @@ public final class LimitTest {
         Checks.due("is whole", Checks.written(paths), want);
     }
 
+    /** Before the matrix, points and what is turned over them go far beyond what may be drawn. */
+    private static void farthestPoints() {
+        String[] matrices = {"(0 0 0 0 0 0", "(4096 4096-4096-4096 0 0", "(4096-4096-4096 4096 0 0", "(.004 0 0 .004 0 0"};
+        for (String matrix : matrices) {
+            for (String letter : new String[] {"t", "T", "l", "h", "v", "q0 0 ", "s0 0 ", "c0 0 0 0 "}) {
+                for (String step : new String[] {"4096 4096 ", "-4096-4096 ", "-4096-4096 4096 4096 "}) {
+                    String set = letter.length() == 1 ? step : letter.substring(1) + step;
+                    String sets = letter.charAt(0) + set.repeat(1100 / set.length());
+                    sameAsModel(matrix + "M4096 4096" + sets + ")");
+                    sameAsModel(matrix + "M-4096-4096" + sets + "z)");
+                }
+            }
+        }
+    }
+
+    private static void sameAsModel(String text) {
+        Paths paths = new Paths();
+        int want;
+        String drawing;
+        try {
+            List<Model.Command> read = Model.read(text);
+            want = read.size();
+            drawing = Model.told(read);
+        } catch (Model.Wrong wrong) {
+            want = PathTexts.NONE - wrong.place;
+            drawing = "";
+        }
+        Checks.due("reading " + text, Checks.readText(paths, text), want);
+        Checks.due("drawing of " + text, Checks.commands(paths), drawing);
+    }
+
     private static void longestTexts() {
         String[] starts = {"M", "M1", "M1 1L", "(", "M.", "M-", "(1 0 0 1 0 0", "M1 1z", ""};
         for (String start : starts) {
             for (String filling : new String[] {" ", ",", "1", "1 ", ".", "-", "+1", "(", ")", "z", "m", "9.", ".9"}) {
                 String text = start + filling.repeat(1200);
-                String cut = text.substring(0, 1200);
-                int want;
-                try {
-                    want = Model.read(cut).size();
-                } catch (Model.Wrong wrong) {
-                    want = -1 - wrong.place;
-                }
-                Checks.due("1200 of " + start + filling, Checks.readText(new Paths(), cut), want);
+                sameAsModel(text.substring(0, 1200));
             }
         }
     }

@@ -78,11 +78,9 @@ public final class PromiseTest {
     }
 
     private static void draws(String promise, String text, String want) {
-        Paths paths = new Paths();
-        int answer = Checks.readText(paths, text);
-        Checks.due(promise + text, Checks.commands(paths), want);
-        Checks.due(promise + "how many of " + text, answer, want.isEmpty() ? 0 : want.split(" ").length);
-        Checks.due(promise + "the text goes: " + text, paths.told(1), 0);
+        Checks.about(promise);
+        Checks.draws(text, want);
+        Checks.about("");
     }
 
     private static void promise3ReadLines() {
@@ -190,10 +188,9 @@ public final class PromiseTest {
     }
 
     private static void wrong(String text, int place) {
-        Paths paths = Checks.drawn("M7 7");
-        String before = Checks.state(paths);
-        Checks.due("3: " + text, Checks.readText(paths, text), -1 - place);
-        Checks.due("3: the drawing stays, the text goes: " + text, Checks.state(paths), before);
+        Checks.about("3: ");
+        Checks.wrong(text, place);
+        Checks.about("");
     }
 
     private static void promise3ReadWrong() {

@@ -388,6 +388,10 @@ public final class ReadingSentencesTest {
         Checks.draws("M0 0q3 0 3 3-3 0-3-3", "M0,0 C512,0,768,256,768,768 C256,768,0,512,0,0");
         Checks.draws("M0 0T3 0 6 0", "M0,0 C0,0,256,0,768,0 C1280,0,1536,0,1536,0");
         Checks.draws("M0 0t3 0 3 0", "M0,0 C0,0,256,0,768,0 C1280,0,1536,0,1536,0");
+        Checks.draws("M0 0L+1+2-3-4 .5.5 5 6", "M0,0 L256,512 L-768,-1024 L128,128 L1280,1536");
+        Checks.draws("M0 0H1+1", "M0,0 L256,0 L256,0");
+        Checks.draws("M0 0h1,+1,-1,.5,0", "M0,0 L256,0 L512,0 L256,0 L384,0 L384,0");
+        Checks.draws("M0 0+1+1", "M0,0 L256,256");
         Checks.wrong("M0 0Z1", 5);
         Checks.wrong("M0 0z 1 1", 6);
         Checks.wrong("M0 0L1 2 3", 10);
@@ -501,7 +505,9 @@ public final class ReadingSentencesTest {
     /** A cubic's points are whole numbers: drawn as lines, those cover what the cubic does. */
     private static void curvesToTheNearest() {
         int[][] curves = {{0, 0, 301, 12, -77, 250, 203, 255}, {255, 3, -301, 12, 377, 251, -3, 251},
-            {-5, -7, 3, 901, 250, -601, 251, 263}, {24, 8, 21, 24, 27, 40, 28, 261}, {8, 8, 4, 90, 12, 170, 4, 248}};
+            {-5, -7, 3, 901, 250, -601, 251, 263}, {24, 8, 21, 24, 27, 40, 28, 261}, {8, 8, 4, 90, 12, 170, 4, 248},
+            // One with a number half way between two below 0, which changes what is covered.
+            {-7, 290, -26, -24, -13, 281, 14, -59}};
         for (int[] curve : curves) {
             Checks.due("cubic to " + curve[6] + ", " + curve[7],
                 DrawingSentencesTest.cubicAndSides(curve), DrawingSentencesTest.sixteenLinesAndSides(curve));
@@ -657,7 +663,7 @@ public final class ReadingSentencesTest {
         Checks.wrong("M" + " 1 1".repeat(151), 0);
         Checks.wrong("M0 0" + "Z".repeat(149) + "M1 1", 153);
         Checks.wrong("M0 0" + "Z".repeat(149) + "C1 1 1 1 1 1", 153);
-        Checks.draws("M0 0" + "Z".repeat(149) + SAME + ")", "M0,0" + " Z".repeat(149));
+        Checks.draws("M0 0" + "Z".repeat(149) + (SAME + ")").repeat(80), "M0,0" + " Z".repeat(149));
         Checks.wrong(SAME + "M0 0" + "Z".repeat(149) + ")" + "M0 0", 166);
         Paths paths = Checks.drawn("M0 0" + "Z".repeat(149));
         Checks.answers("an earlier drawing's count not", () -> Checks.readText(paths, "M0 0" + "Z".repeat(149)), 150);
