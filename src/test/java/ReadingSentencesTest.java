@@ -457,6 +457,9 @@ public final class ReadingSentencesTest {
         Checks.wrong(step.repeat(9) + ")".repeat(9), 96);
         Checks.wrong(step.repeat(8) + "M0 0" + step + "M0 0" + ")".repeat(9), 100);
         Checks.wrong(step.repeat(20), 96);
+        // From the left, the ninth bracket is seen before what stands behind it.
+        Checks.wrong(step.repeat(8) + "(x", 96);
+        Checks.wrong(step.repeat(8) + "(", 96);
         Paths paths = new Paths();
         Checks.readText(paths, step.repeat(8));
         Checks.answers("an earlier text's groups count not", () -> Checks.readText(paths, step.repeat(8) + ")".repeat(8)), 0);
